@@ -1255,7 +1255,8 @@ public final class NoThrees {
         private final long[] choices = new long[World.MOST];
         private final long[] hits = new long[World.MOST];
         private final long[] barredBy = new long[World.MOST];
-        private int things;
+        /** All things. */
+        private long goal;
 
         private final long[] open = new long[World.MOST + 1];
         private final long[] hit = new long[World.MOST + 1];
@@ -1267,7 +1268,7 @@ public final class NoThrees {
         private boolean spent;
 
         void takePoints(World w) {
-            things = w.lines;
+            goal = World.first(w.lines);
             for (int i = 0; i < World.MOST; i++) {
                 choices[i] = w.setAt(i);
                 hits[i] = w.throughAt(i);
@@ -1276,7 +1277,7 @@ public final class NoThrees {
         }
 
         void takeLines(World w) {
-            things = w.points;
+            goal = w.all();
             for (int i = 0; i < World.MOST; i++) {
                 choices[i] = w.throughAt(i);
                 hits[i] = w.setAt(i);
@@ -1300,7 +1301,7 @@ public final class NoThrees {
             found = 0;
             best = 0;
             spent = false;
-            if (things == 0) {
+            if (goal == 0) {
                 found = 1;
                 return;
             }
@@ -1335,7 +1336,7 @@ public final class NoThrees {
             }
             long hitNow = hit[depth] | hits[choice];
             long takenNow = taken[depth] | 1L << choice;
-            if (hitNow == World.first(things)) {
+            if (hitNow == goal) {
                 best = found == 0 ? takenNow : best;
                 found++;
                 return false;
@@ -1397,9 +1398,7 @@ public final class NoThrees {
             for (int step = 0; step < k / 2; step++) {
                 walkOn(w);
             }
-            for (int p = 0; p < World.MOST; p++) {
-                halfway[p] = counts[p];
-            }
+            System.arraycopy(counts, 0, halfway, 0, World.MOST);
             if (k % 2 == 1) {
                 walkOn(w);
             }
@@ -1411,17 +1410,17 @@ public final class NoThrees {
         }
 
         private void walkOn(World w) {
-            for (int p = 0; p < World.MOST; p++) {
+            for (int p = 0; p < w.points && p < World.MOST; p++) {
                 long near = w.nearAt(p);
                 long sum = 0;
-                for (int q = 0; q < World.MOST; q++) {
+                for (int q = 0; q < w.points && q < World.MOST; q++) {
                     if (World.has(near, q)) {
                         sum += counts[q];
                     }
                 }
                 fresh[p] = sum;
             }
-            System.arraycopy(fresh, 0, counts, 0, World.MOST);
+            System.arraycopy(fresh, 0, counts, 0, Math.min(w.points, World.MOST));
         }
 
         private static long nearToAny(World w, long set) {
@@ -1489,7 +1488,7 @@ public final class NoThrees {
 
         int shortestRing(World w) {
             int least = NO_RING;
-            for (int p = 0; p < w.points; p++) {
+            for (int p = 0; p < w.points && p < World.MOST; p++) {
                 least = ringFrom(w, p, least);
             }
             return least == NO_RING ? NONE : least;
@@ -1549,7 +1548,7 @@ public final class NoThrees {
                 }
             }
             int rank = 0;
-            for (int column = 0; column < w.points && rank < w.lines; column++) {
+            for (int column = 0; column < w.points && column < SIDE && rank < SIDE; column++) {
                 if (bringUp(w, rank, column)) {
                     clearBelow(w, rank, column, p);
                     rank++;
@@ -1560,7 +1559,7 @@ public final class NoThrees {
 
         /** Changes a row for one behind it that isn't 0 in a column; false: there is none. */
         private boolean bringUp(World w, int row, int column) {
-            for (int i = row; i < w.lines; i++) {
+            for (int i = row; i < w.lines && i < SIDE; i++) {
                 if (table[i * SIDE + column] != 0) {
                     for (int j = 0; j < SIDE; j++) {
                         int kept = table[i * SIDE + j];
@@ -1575,7 +1574,7 @@ public final class NoThrees {
 
         private void clearBelow(World w, int row, int column, int p) {
             int pivot = table[row * SIDE + column];
-            for (int i = row + 1; i < w.lines; i++) {
+            for (int i = row + 1; i < w.lines && i < SIDE; i++) {
                 int factor = table[i * SIDE + column];
                 if (factor != 0) {
                     // Both rows are stretched, so that nothing need be divided.
