@@ -1381,6 +1381,7 @@ public final class NoThrees {
         private final int[] steps = new int[NODES];
         private final int[] cameFrom = new int[NODES];
         private final int[] queue = new int[NODES];
+        private int filled;
 
         int closedWalks(World w, int k) {
             long sum = 0;
@@ -1411,12 +1412,12 @@ public final class NoThrees {
 
         private void walkOn(World w) {
             for (int p = 0; p < w.points && p < World.MOST; p++) {
-                long near = w.nearAt(p);
+                long rest = w.nearAt(p);
                 long sum = 0;
-                for (int q = 0; q < w.points && q < World.MOST; q++) {
-                    if (World.has(near, q)) {
-                        sum += counts[q];
-                    }
+                for (int turn = 0; turn < World.MOST && rest != 0; turn++) {
+                    int q = Long.numberOfTrailingZeros(rest);
+                    sum += q < World.MOST ? counts[q] : 0;
+                    rest &= rest - 1;
                 }
                 fresh[p] = sum;
             }
@@ -1497,34 +1498,39 @@ public final class NoThrees {
         /** Nodes are the points, and behind them the lines. */
         private int ringFrom(World w, int start, int least) {
             Arrays.fill(steps, NONE);
-            int best = least;
-            int filled = 1;
             queue[0] = start;
             cameFrom[start] = NONE;
             steps[start] = 0;
-            for (int next = 0; next < filled && next < NODES; next++) {
+            filled = 1;
+            int best = least;
+            // A ring that closes beside a node goes out to it and back: it is no shorter than that.
+            for (int next = 0; next < filled && next < NODES && 2 * steps[queue[next]] + 2 < best; next++) {
                 int node = queue[next];
-                if (2 * steps[node] + 2 > best) {
-                    break;
-                }
                 boolean isPoint = node < World.MOST;
-                long beside = isPoint ? w.throughAt(node) : w.setAt(node - World.MOST);
-                for (int i = 0; i < World.MOST; i++) {
-                    int to = isPoint ? World.MOST + i : i;
-                    if (!World.has(beside, i) || to == cameFrom[node]) {
-                        continue;
-                    }
-                    if (steps[to] != NONE) {
-                        best = Math.min(best, steps[node] + steps[to] + 1);
-                    } else if (filled < NODES) {
-                        steps[to] = steps[node] + 1;
-                        cameFrom[to] = node;
-                        queue[filled] = to;
-                        filled++;
+                long rest = isPoint ? w.throughAt(node) : w.setAt(node - World.MOST);
+                for (int turn = 0; turn < World.MOST && rest != 0; turn++) {
+                    int to = Long.numberOfTrailingZeros(rest) + (isPoint ? World.MOST : 0);
+                    rest &= rest - 1;
+                    if (to < NODES && to != cameFrom[node]) {
+                        best = Math.min(best, reach(to, node));
                     }
                 }
             }
             return best;
+        }
+
+        /** How long the ring is that closes when a node is reached from another; NO_RING when it is new. */
+        private int reach(int to, int from) {
+            if (steps[to] != NONE) {
+                return steps[from] + steps[to] + 1;
+            }
+            if (filled < NODES) {
+                steps[to] = steps[from] + 1;
+                cameFrom[to] = from;
+                queue[filled] = to;
+                filled++;
+            }
+            return NO_RING;
         }
     }
 
