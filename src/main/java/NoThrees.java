@@ -231,6 +231,7 @@ public final class NoThrees {
         if (now.points > Turner.MOST || other.points > Turner.MOST) {
             return NONE;
         }
+        turner.countTurnings(now);
         return turner.areAlike(now, other) ? 1 : 0;
     }
 
@@ -1652,59 +1653,71 @@ public final class NoThrees {
     }
 
     /**
-     * Carries one world's points to another's. Points have hues, which the hues of the lines through
-     * them change: points that can be carried to one another keep like hues.
+     * Carries one world's points to another's. The points of both are parted into kinds, and the lines,
+     * till all points of a kind are on as many lines of each kind and all lines have as many points of
+     * each. How many is told in full, never by a sum that could be the same by chance.
      */
     private static final class Turner {
         private static final int MOST = 16;
-        private static final int DEPTHS = MOST + 2;
-        private static final long TOLD_APART = 99;
+        /** Points have a row of kinds for each one that was told apart, lines the row behind those. */
+        private static final int LINE_ROW = MOST;
+        private static final int WIDE = World.MOST;
 
         private int points;
         private int lines;
-        private final long[] sets = new long[World.MOST];
-        private final long[] otherSets = new long[World.MOST];
-        private final long[] hues = new long[DEPTHS * MOST];
-        private final long[] otherHues = new long[DEPTHS * MOST];
-        private final long[] mixed = new long[MOST];
-        private final long[] fromLines = new long[MOST];
+        private final long[] sets = new long[WIDE];
+        private final long[] otherSets = new long[WIDE];
+        private final long[] throughs = new long[MOST];
+        private final long[] otherThroughs = new long[MOST];
+        /** Of each row: how many kinds there are, and the sets of what is of a kind in either world. */
+        private final int[] kinds = new int[LINE_ROW + 1];
+        private final long[] ones = new long[(LINE_ROW + 1) * WIDE];
+        private final long[] others = new long[(LINE_ROW + 1) * WIDE];
+        private final long[] marks = new long[WIDE];
+        private final long[] otherMarks = new long[WIDE];
         private final int[] carried = new int[MOST];
         /** Points that the turnings found so far carry to one another have the same class. */
         private final int[] classes = new int[MOST];
+        /** Of the points told apart one by one: to what turnings that keep those before carry each. */
+        private final long[] reaches = new long[MOST];
+        /** And to what each is carried just now. */
+        private final int[] goals = new int[MOST];
 
         long countTurnings(World w) {
             load(w, w);
+            int depth = tellAllApart();
             for (int p = 0; p < MOST; p++) {
                 classes[p] = p;
             }
             long many = 1;
-            // Of the turnings that keep all points below one: how many places it can be carried to.
-            for (int p = points - 1; p >= 0 && p < MOST; p--) {
-                widenClass(p);
-                many *= Long.bitCount(classOf(p));
+            // Turnings that keep more points come first: they carry on in those that keep fewer.
+            for (int d = depth - 1; d >= 0 && d < MOST; d--) {
+                many *= widenReach(d);
             }
             return many;
         }
 
+        /** To be asked when the turnings of the first world are counted. */
         boolean areAlike(World one, World other) {
             if (one.points != other.points || one.lines != other.lines) {
                 return false;
             }
             load(one, other);
-            for (int p = 0; p < MOST; p++) {
-                hues[p] = 0;
-                otherHues[p] = 0;
-            }
             return carryOn(this, 0);
         }
 
         private void load(World one, World other) {
             points = Math.min(one.points, MOST);
             lines = one.lines;
-            for (int i = 0; i < World.MOST; i++) {
+            for (int i = 0; i < WIDE; i++) {
                 sets[i] = one.setAt(i);
                 otherSets[i] = other.setAt(i);
             }
+            for (int p = 0; p < MOST; p++) {
+                throughs[p] = one.throughAt(p);
+                otherThroughs[p] = other.throughAt(p);
+            }
+            becomeOneKind(0, points);
         }
 
         /** The points to which what was found carries a point. */
@@ -1719,33 +1732,44 @@ public final class NoThrees {
             return set;
         }
 
-        private void widenClass(int point) {
-            long refused = 0;
-            for (int to = point + 1; to < points && to < MOST; to++) {
-                if (World.has(refused | classOf(point), to)) {
-                    continue;
+        /** Points are told apart one by one, till each is a kind of its own: how many had to be. */
+        private int tellAllApart() {
+            int depth = 0;
+            for (int turn = 0; turn + 1 < MOST; turn++) {
+                settleKinds(depth);
+                int kind = undecided(depth);
+                if (kind == NONE) {
+                    break;
                 }
-                tellFirstApart(point, to);
-                if (carryOn(this, 0)) {
-                    mergeClasses();
-                } else {
-                    refused |= classOf(to);
-                }
+                int point = World.lowest(ones[depth * WIDE + kind]);
+                tellApart(depth, kind, point, point);
+                reaches[depth] = 1L << point;
+                depth++;
             }
+            return depth;
         }
 
-        /** So that only what keeps the points below one and carries it to another is found. */
-        private void tellFirstApart(int point, int to) {
-            for (int p = 0; p < MOST; p++) {
-                hues[p] = p < point ? p + 1 : 0;
-                otherHues[p] = hues[p];
-                if (p == point) {
-                    hues[p] = TOLD_APART;
-                }
-                if (p == to) {
-                    otherHues[p] = TOLD_APART;
+        /** To how many points a point is carried by turnings that keep those told apart before it. */
+        private int widenReach(int depth) {
+            int kind = undecided(depth);
+            if (kind == NONE) {
+                return 1;
+            }
+            long open = ones[depth * WIDE + kind];
+            int point = World.lowest(open);
+            for (int to = point + 1; to < points && to < MOST; to++) {
+                if (World.has(open, to) && !World.has(classOf(point), to)) {
+                    tellApart(depth, kind, point, to);
+                    if (carryOn(this, depth + 1)) {
+                        mergeClasses();
+                    } else {
+                        // What could be carried to one of these could be carried to all.
+                        open &= ~classOf(to);
+                    }
                 }
             }
+            reaches[depth] = classOf(point);
+            return Long.bitCount(reaches[depth]);
         }
 
         private void mergeClasses() {
@@ -1760,22 +1784,21 @@ public final class NoThrees {
             }
         }
 
-        /** Each level tells one more point apart, so that there are no more levels than points. */
+        /** Each level has a kind more at least, so that there are no more levels than points. */
         private static boolean carryOn(Turner t, int depth) {
-            if (depth > t.points || depth > MOST) {
+            if (depth < 0 || depth >= MOST || !t.settleKinds(depth)) {
                 return false;
             }
-            int row = depth * MOST;
-            if (!t.settleHues(row)) {
-                return false;
+            int kind = t.undecided(depth);
+            if (kind == NONE) {
+                t.carryKinds(depth);
+                return true;
             }
-            int point = t.undecided(row);
-            if (point == NONE) {
-                return t.carries(row);
-            }
+            int point = World.lowest(t.ones[depth * WIDE + kind]);
+            long open = t.others[depth * WIDE + kind];
             for (int to = 0; to < t.points && to < MOST; to++) {
-                if (t.otherHues[row + to] == t.hues[row + point]) {
-                    t.tellApart(row, point, to);
+                if (World.has(open, to) && t.isWorthTrying(depth, point, to, open)) {
+                    t.tellApart(depth, kind, point, to);
                     if (carryOn(t, depth + 1)) {
                         return true;
                     }
@@ -1784,127 +1807,160 @@ public final class NoThrees {
             return false;
         }
 
-        private void tellApart(int row, int point, int to) {
-            for (int p = 0; p < MOST; p++) {
-                hues[row + MOST + p] = hues[row + p] + (p == point ? TOLD_APART : 0);
-                otherHues[row + MOST + p] = otherHues[row + p] + (p == to ? TOLD_APART : 0);
+        /**
+         * A way with a turning of the first world ahead of it is a way, too. Of all these just one carries
+         * each point told apart below the others of its reach: no other way need be tried.
+         */
+        private boolean isWorthTrying(int depth, int point, int to, long open) {
+            long above = open & ~World.first(to + 1);
+            if (Long.bitCount(above) < Long.bitCount(reaches[depth]) - 1) {
+                return false;
             }
-        }
-
-        /** False: the points of the two worlds can't have like hues. */
-        private boolean settleHues(int row) {
-            int kinds = kindsIn(row);
-            for (int round = 0; round <= MOST && kinds < points; round++) {
-                if (changeHues(hues, sets, row) != changeHues(otherHues, otherSets, row)) {
+            for (int d = 0; d < depth && d < MOST; d++) {
+                if (World.has(reaches[d], point) && to < goals[d]) {
                     return false;
                 }
-                int kindsNow = kindsIn(row);
-                if (kindsNow == kinds) {
+            }
+            return true;
+        }
+
+        /** One point of a kind is a kind of its own on the next level, and is carried to another. */
+        private void tellApart(int depth, int kind, int point, int to) {
+            if (depth < 0 || depth + 1 >= MOST) {
+                return;
+            }
+            int next = depth + 1;
+            System.arraycopy(ones, depth * WIDE, ones, next * WIDE, WIDE);
+            System.arraycopy(others, depth * WIDE, others, next * WIDE, WIDE);
+            kinds[next] = kinds[depth];
+            split(next, kind, 1L << point, 1L << to);
+            goals[depth] = to;
+        }
+
+        private void becomeOneKind(int row, int many) {
+            kinds[row] = many > 0 ? 1 : 0;
+            ones[row * WIDE] = World.first(many);
+            others[row * WIDE] = World.first(many);
+        }
+
+        /** Part of a kind stays what it is, the rest is a kind more. */
+        private void split(int row, int kind, long part, long otherPart) {
+            int at = row * WIDE + kind;
+            if (part == ones[at] || kinds[row] >= WIDE) {
+                return;
+            }
+            int more = row * WIDE + kinds[row];
+            ones[more] = ones[at] & ~part;
+            others[more] = others[at] & ~otherPart;
+            ones[at] = part;
+            others[at] = otherPart;
+            kinds[row]++;
+        }
+
+        /** False: no way carries each point to one of its kind. */
+        private boolean settleKinds(int depth) {
+            // Each round but the last brings a kind, and there are no more kinds than points.
+            for (int round = 0; round <= MOST; round++) {
+                int before = kinds[depth];
+                becomeOneKind(LINE_ROW, lines);
+                markLines(depth);
+                if (!partByMarks(LINE_ROW)) {
+                    return false;
+                }
+                markPoints();
+                if (!partByMarks(depth)) {
+                    return false;
+                }
+                if (kinds[depth] == before) {
                     return true;
                 }
-                kinds = kindsNow;
             }
             return true;
         }
 
-        private int kindsIn(int row) {
-            int kinds = 0;
-            for (int p = 0; p < points && p < MOST; p++) {
-                boolean isNew = true;
-                for (int q = 0; q < p && isNew; q++) {
-                    isNew = hues[row + q] != hues[row + p];
-                }
-                kinds += isNew ? 1 : 0;
+        private void markLines(int depth) {
+            for (int i = 0; i < lines && i < WIDE; i++) {
+                marks[i] = markOf(depth, ones, sets[i]);
+                otherMarks[i] = markOf(depth, others, otherSets[i]);
             }
-            return kinds;
         }
 
-        /** What comes back is the same for worlds whose points got the same hues. */
-        private long changeHues(long[] rowHues, long[] rowSets, int row) {
+        private void markPoints() {
             for (int p = 0; p < points && p < MOST; p++) {
-                mixed[p] = mix(rowHues[row + p]);
-                fromLines[p] = 0;
+                marks[p] = markOf(LINE_ROW, ones, throughs[p]);
+                otherMarks[p] = markOf(LINE_ROW, others, otherThroughs[p]);
             }
-            for (int i = 0; i < lines && i < World.MOST; i++) {
-                long sum = 0;
-                for (int p = 0; p < points && p < MOST; p++) {
-                    sum += World.has(rowSets[i], p) ? mixed[p] : 0;
-                }
-                sum = mix(sum);
-                for (int p = 0; p < points && p < MOST; p++) {
-                    fromLines[p] += World.has(rowSets[i], p) ? sum : 0;
-                }
-            }
-            long all = 0;
-            for (int p = 0; p < points && p < MOST; p++) {
-                rowHues[row + p] = mix(3 * mixed[p] + fromLines[p]);
-                all += mix(rowHues[row + p]);
-            }
-            return all;
         }
 
-        private static long mix(long x) {
-            long y = (x ^ x >>> 31) * 0x9E3779B97F4A7C15L + 0x632BE59BD9B4E019L;
-            y = (y ^ y >>> 29) * 0xBF58476D1CE4E5B9L;
-            return y ^ y >>> 32;
+        /** Each kind has as many bits as it has members, and the first so many are set as are in a set. */
+        private long markOf(int row, long[] members, long set) {
+            long mark = 0;
+            int place = 0;
+            for (int kind = 0; kind < kinds[row] && kind < WIDE; kind++) {
+                long of = members[row * WIDE + kind];
+                mark |= World.first(Long.bitCount(of & set)) << place;
+                place += Long.bitCount(of);
+            }
+            return mark;
         }
 
-        /** A point of the fewest that have the same hue, which isn't its own alone. */
-        private int undecided(int row) {
-            int point = NONE;
+        /** False: a kind of one world has not as many of each mark as that of the other. */
+        private boolean partByMarks(int row) {
+            // The rest of a kind comes behind all others, and is parted in its turn.
+            for (int kind = 0; kind < kinds[row] && kind < WIDE; kind++) {
+                int at = row * WIDE + kind;
+                int first = World.lowest(ones[at]);
+                if (first < 0 || first >= WIDE) {
+                    return false;
+                }
+                long part = markedSo(ones[at], marks, marks[first]);
+                long otherPart = markedSo(others[at], otherMarks, marks[first]);
+                if (Long.bitCount(part) != Long.bitCount(otherPart)) {
+                    return false;
+                }
+                split(row, kind, part, otherPart);
+            }
+            return true;
+        }
+
+        private static long markedSo(long among, long[] rowMarks, long mark) {
+            long set = 0;
+            long rest = among;
+            for (int turn = 0; turn < WIDE && rest != 0; turn++) {
+                int i = Long.numberOfTrailingZeros(rest);
+                rest &= rest - 1;
+                if (i < rowMarks.length && rowMarks[i] == mark) {
+                    set |= 1L << i;
+                }
+            }
+            return set;
+        }
+
+        /** The smallest kind of two points or more. */
+        private int undecided(int depth) {
+            int smallest = NONE;
             int fewest = MOST + 1;
-            for (int p = 0; p < points && p < MOST; p++) {
-                int many = 0;
-                for (int q = 0; q < points && q < MOST; q++) {
-                    many += hues[row + q] == hues[row + p] ? 1 : 0;
-                }
+            for (int kind = 0; kind < kinds[depth] && kind < WIDE; kind++) {
+                int many = Long.bitCount(ones[depth * WIDE + kind]);
                 if (many > 1 && many < fewest) {
                     fewest = many;
-                    point = p;
+                    smallest = kind;
                 }
             }
-            return point;
+            return smallest;
         }
 
-        /** Whether carrying points to those of their hue carries lines to lines. */
-        private boolean carries(int row) {
-            for (int p = 0; p < points && p < MOST; p++) {
-                carried[p] = NONE;
-                for (int q = 0; q < points && q < MOST; q++) {
-                    if (otherHues[row + q] == hues[row + p]) {
-                        carried[p] = q;
-                    }
-                }
-                if (carried[p] == NONE) {
-                    return false;
+        /**
+         * To be called when each point is a kind of its own: marks of lines tell all their points then, so
+         * that lines are carried to those of their kind.
+         */
+        private void carryKinds(int depth) {
+            for (int kind = 0; kind < kinds[depth] && kind < WIDE; kind++) {
+                int point = World.lowest(ones[depth * WIDE + kind]);
+                if (point >= 0 && point < MOST) {
+                    carried[point] = World.lowest(others[depth * WIDE + kind]);
                 }
             }
-            long used = 0;
-            for (int i = 0; i < lines && i < World.MOST; i++) {
-                int to = unusedLine(carriedSet(sets[i]), used);
-                if (to == NONE) {
-                    return false;
-                }
-                used |= 1L << to;
-            }
-            return true;
-        }
-
-        private long carriedSet(long set) {
-            long image = 0;
-            for (int p = 0; p < points && p < MOST; p++) {
-                image |= World.has(set, p) ? 1L << carried[p] : 0;
-            }
-            return image;
-        }
-
-        private int unusedLine(long set, long used) {
-            for (int i = 0; i < lines && i < World.MOST; i++) {
-                if (otherSets[i] == set && !World.has(used, i)) {
-                    return i;
-                }
-            }
-            return NONE;
         }
     }
 
