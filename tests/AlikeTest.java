@@ -5,6 +5,7 @@ public final class AlikeTest {
     public static void main(String[] args) {
         turnings();
         hardTurnings();
+        fewTurnings();
         orbits();
         like();
         hardLike();
@@ -103,6 +104,41 @@ public final class AlikeTest {
         Check.due("15 lines of eight and what they leave", 322560, halves().turnings());
     }
 
+    /** Lines that are told so that sums over what goes through the points 0 and 1 are easily the same. */
+    private static void fewTurnings() {
+        NoThrees x = Check.told("points 16;");
+        int[] sets = {13313, 50177, 14338, 51202, 22529, 43009, 21506, 41986, 12288, 3189, 3190, 3889, 3890, 3301, 3302,
+            3545, 3546, 313, 314, 965, 966, 3397, 3398, 4025, 4026, 3605, 3606, 3841, 3842, 645, 646, 645, 646, 169, 170,
+            949, 950, 357, 358, 889, 890};
+        for (int set : sets) {
+            x.add(set);
+        }
+        Check.due("41 lines", 4, x.turnings());
+        for (int p = 0; p < 16; p++) {
+            boolean changed = p < 2 || p > 9;
+            Check.due("41 lines: orbit " + p, changed ? 3L << p / 2 * 2 : 1L << p, x.orbit(p));
+        }
+        x.image(0);
+        Check.due("41 lines are like themselves", 1, x.like(0));
+        x.drop(0);
+        x.add(Check.set(0, 10, 12, 13));
+        Check.due("a line of the 41 stands elsewhere", 1, x.like(0));
+        x.drop(40);
+        x.add(Check.set(0, 11, 12, 13));
+        Check.due("a line of the 41 has changed", 0, x.like(0));
+        NoThrees y = Check.told("points 16;");
+        for (int i = 0; i < 64; i++) {
+            y.add(Check.set(3, 5));
+        }
+        Check.due("64 lines alike", 2L * 87178291200L, y.turnings());
+        Check.due("64 lines alike: orbit", Check.set(3, 5), y.orbit(3));
+        y.image(0);
+        y.drop(63);
+        y.add(Check.set(3, 6));
+        Check.due("63 lines alike and another", 0, y.like(0));
+        Check.due("63 lines alike and another", 6227020800L, y.turnings());
+    }
+
     /** Of the points as numbers of four bits: those with an even number of bits in common with each. */
     private static NoThrees halves() {
         NoThrees x = Check.told("points 16;");
@@ -150,6 +186,10 @@ public final class AlikeTest {
         Check.due("more points", 0, x.like(2));
         Check.world(x, "points 4;line 0 1;line 1 2;line 1 2;");
         Check.due("more lines", 0, x.like(2));
+        x.image(1);
+        Check.world(x, "points 4;line 0 1;line 1 2;");
+        Check.due("more lines in the image, the first of them alike", 0, x.like(1));
+        x.restore(1);
         x.image(0);
         Check.world(x, "points 4;line 0 1;line 0 1;line 1 2;");
         Check.due("lines alike", 1, x.like(0));
