@@ -13,7 +13,7 @@ public final class PlainTest {
     private static final long IOOBE = 1L << 40 | 4;
 
     public static void main(String[] args) {
-        for (int seed = 0; seed < 400; seed++) {
+        for (int seed = 0; seed < 460; seed++) {
             new PlainTest(seed).run();
         }
         Check.end("PlainTest");
@@ -71,7 +71,7 @@ public final class PlainTest {
         newWorld();
         // In some runs acts follow on one another for long.
         int worlds = seed % 3 == 0 ? 0 : 4;
-        while (called < 500) {
+        while (called < 440) {
             int what = random.nextInt(60);
             if (what < worlds) {
                 newWorld();
