@@ -133,6 +133,18 @@ public final class ActEdgesTest {
         }
         Check.thrown("Promise 37: line 62 of 62", NO_SUCH, () -> x.drop(62));
         Check.due("Promise 37: line 61 of 62", 3, x.drop(61));
+        for (int line : new int[] {0, 1, 61, 62, 63}) {
+            NoThrees all = Check.told("points 64;");
+            for (int i = 0; i < 64; i++) {
+                all.add(1L << i | 1L << (i + 1) % 64);
+            }
+            all.drop(line);
+            for (int i = 0; i < 63; i++) {
+                int was = i < line ? i : i + 1;
+                Check.due("Promise 37: without " + line + " of 64", 1L << was | 1L << (was + 1) % 64, all.line(i));
+            }
+            Check.thrown("Promise 37: 63 are left", NO_SUCH, () -> all.line(63));
+        }
     }
 
     private static void dual() {

@@ -18,6 +18,7 @@ public final class SetEdgesTest {
         triesForFirst();
         cap();
         capOf27();
+        capOfNine();
         triads();
         centres();
         asked();
@@ -69,6 +70,12 @@ public final class SetEdgesTest {
         Check.due("Promise 17: the first line otherwise", -1, x.even(Check.set(2, 0, 1)));
         Check.due("Promise 17: the last line otherwise", -1, x.even(Check.set(0, 2, 3)));
         Check.due("Promise 17: none on the last line alone", -1, x.even(Check.set(1)));
+        for (int line = 0; line < 4; line++) {
+            // Two points of this line, and one of each of the others.
+            NoThrees four = Check.told("points 8;line 0 1;line 2 3;line 4 5;line 6 7;");
+            Check.due("Promise 17: line " + line + " otherwise", -1, four.even(0x55 | 2L << 2 * line));
+            Check.due("Promise 17: line " + line + " otherwise", -1, four.even(0x55 & ~(1L << 2 * line)));
+        }
         Check.due("Promise 17: lines of two and of three", 2, Check.told("points 5;line 0 1;line 2 3 4;").even(15));
         Check.due("Promise 17: a line of 64", 63, added(64, -1L).even(Long.MAX_VALUE));
         for (String text : new String[] {"points 1;", "points 5;"}) {
@@ -144,6 +151,15 @@ public final class SetEdgesTest {
         Check.due("Promise 19: a point on no line", -1, Check.told("points 3;line 0 1;").tight(3));
         Check.due("Promise 19: less than none", -1, Check.told("points 4;line 0 1 2;").tight(8));
         Check.due("Promise 19: less than none", -1, Check.told("points 4;line 1 2 3;").tight(1));
+        for (int p = 0; p < 5; p++) {
+            // This point is joined to none, all others are as they should be.
+            NoThrees four = Check.told("points 5;");
+            four.add(31 & ~(1L << p));
+            Check.due("Promise 19: point " + p + " otherwise", -1, four.tight(31 & ~(1L << p)));
+            Check.due("Promise 19: point " + p + " otherwise", -1, four.tight(31));
+            Check.due("Promise 19: all by 0", 0, four.tight(0));
+            Check.due("Promise 19: all by 0", -1, four.tight(1L << p));
+        }
         // The points of the first line are counted, not those of another.
         Check.due("Promise 19: the first line has two", 3, Check.told("points 4;line 0 1;line 0 1 2 3;").tight(15));
         Check.due("Promise 19: the first line has four", 1, Check.told("points 4;line 0 1 2 3;line 0 1;").tight(15));
@@ -389,6 +405,9 @@ public final class SetEdgesTest {
         // 0, 3 and 1, 2 are of two each: 6 is less than 9.
         Check.due("Promise 24: of like ones the least", 6, Check.told("points 4;line 0 1;line 0 2;line 3 1;line 3 2;").cap());
         Check.due("Promise 24: a point on no line", 9, Check.told("points 4;line 0 1 2;").cap());
+        Check.due("Promise 24: three joined to each of two", 28, Check.told("points 5;line 0 2;line 0 3;line 0 4;line 1 2;line 1 3;line 1 4;").cap());
+        Check.due("Promise 24: four joined to each of three", 0x78, Check.told("points 7;line 0 3;line 0 4;line 0 5;line 0 6;line 1 3;"
+                + "line 1 4;line 1 5;line 1 6;line 2 3;line 2 4;line 2 5;line 2 6;").cap());
         Check.due("Promise 24: a ring of five", 5, Check.told("points 5;line 0 1;line 1 2;line 2 3;line 3 4;line 4 0;").cap());
     }
 
@@ -405,6 +424,34 @@ public final class SetEdgesTest {
             nine.add(7L << 3 * i);
         }
         Check.due("Promise 24: nine lines of three", 0x1249249, nine.cap());
+    }
+
+    /** Worlds of nine points, each cap held against all sets of points. */
+    private static void capOfNine() {
+        long seed = 1;
+        for (int turn = 0; turn < 300; turn++) {
+            NoThrees x = Check.told("points 9;");
+            long[] near = new long[9];
+            for (int i = 0; i < 4 + turn % 14; i++) {
+                seed = seed * 6364136223846793005L + 1442695040888963407L;
+                int one = (int) (seed >>> 40) % 9;
+                int other = (int) (seed >>> 50) % 9;
+                if (one != other) {
+                    x.add(Check.set(one, other));
+                    near[one] |= 1L << other;
+                    near[other] |= 1L << one;
+                }
+            }
+            long best = 0;
+            for (long set = 1; set < 512; set++) {
+                boolean isCap = true;
+                for (int p = 0; p < 9; p++) {
+                    isCap &= (set >>> p & 1) == 0 || (set & near[p]) == 0;
+                }
+                best = isCap && Long.bitCount(set) > Long.bitCount(best) ? set : best;
+            }
+            Check.due("Promise 24: the least of the greatest, turn " + turn, best, x.cap());
+        }
     }
 
     private static NoThrees star27() {
@@ -446,6 +493,13 @@ public final class SetEdgesTest {
         Check.due("Promise 25: three with no centre", 0, two.triads(0));
         two.add(Check.set(2, 4));
         Check.due("Promise 25: two centres", 1, two.triads(2));
+        // Without one of the lines the point 3, or 4, is joined to two of the three alone.
+        for (int line = 0; line < 6; line++) {
+            two.drop(line);
+            Check.due("Promise 25: a centre less", 1, two.triads(1));
+            Check.due("Promise 25: a centre less", 0, two.triads(2));
+            two.undo();
+        }
     }
 
     private static void asked() {

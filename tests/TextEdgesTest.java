@@ -471,6 +471,20 @@ public final class TextEdgesTest {
         refused("Terms 1: as long as they go", 2, 6, "duads;lin 0 1;");
         refused("Terms 1: a number ends a word", 2, 1, "\nd1uads;");
         refused("Terms 1: a word ends a number", 2, 17, "points 4;line 0 1line 2 3;");
+        for (String word : new String[] {"points", "grid", "duads", "sixes", "threes", "line"}) {
+            String rest = word.equals("points") ? " 4;" : word.equals("grid") ? " 2 2;" : word.equals("line") ? " 0 1;" : ";";
+            String ahead = word.equals("line") ? "duads;" : "";
+            for (int i = 0; i < word.length(); i++) {
+                for (char letter : new char[] {'a', 'z', (char) (word.charAt(i) - 1), (char) (word.charAt(i) + 1)}) {
+                    String other = word.substring(0, i) + letter + word.substring(i + 1);
+                    if (!other.equals(word) && letter >= 'a' && letter <= 'z') {
+                        refused("Terms 1: another word", 2, ahead.length(), ahead + other + rest);
+                    }
+                }
+                refused("Terms 1: a part of a word", 2, ahead.length(), ahead + word.substring(0, i) + word.substring(i + 1) + rest);
+            }
+            refused("Terms 1: a word and a letter", 2, ahead.length(), ahead + word + "s" + rest);
+        }
         refused("Terms 1: another word", 2, 0, "a;");
         refused("Terms 1: another word", 2, 0, "zzzzzzzzzzzzzzzzzzzzzzzzzz;");
     }
