@@ -71,6 +71,7 @@ public final class PlainTest {
         newWorld();
         // In some runs acts follow on one another for long.
         int worlds = seed % 3 == 0 ? 0 : 4;
+        // An object has 512 calls, and one turn takes up to some sixty.
         while (called < 440) {
             int what = random.nextInt(60);
             if (what < worlds) {
