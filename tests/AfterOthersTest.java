@@ -44,7 +44,28 @@ public final class AfterOthersTest {
                 byActs(TEXTS[before], TEXTS[i], fresh[i]);
             }
         }
+        for (int before : new int[] {7, 10, 13, 17}) {
+            for (int i : new int[] {2, 3, 6, 15}) {
+                oneBehindOne(TEXTS[before], TEXTS[i]);
+            }
+        }
         Check.end("AfterOthersTest");
+    }
+
+    /** Each question behind each other one, with nothing between but another world. */
+    private static void oneBehindOne(String before, String text) {
+        for (int first = 0; first < QUESTIONS.length; first++) {
+            for (int next = 0; next < QUESTIONS.length; next++) {
+                NoThrees x = Check.told(before);
+                QUESTIONS[first].of(x, x.count(0), x.count(1));
+                Check.world(x, text);
+                NoThrees fresh = Check.told(text);
+                int points = fresh.count(0);
+                int lines = fresh.count(1);
+                long want = QUESTIONS[next].of(fresh, points, lines);
+                Check.due("question " + next + " of " + text + " behind " + first + " of " + before, want, QUESTIONS[next].of(x, points, lines));
+            }
+        }
     }
 
     private static void byActs(String before, String text, String want) {
