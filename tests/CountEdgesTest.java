@@ -14,6 +14,7 @@ public final class CountEdgesTest {
         codeDimension();
         codeLeastWord();
         turnings();
+        fullForTurnings();
         orbit();
         like();
         likeOfSixteen();
@@ -308,6 +309,31 @@ public final class CountEdgesTest {
         Check.due("Promise 33: both twice", 8, Check.told("points 4;line 0 1;line 2 3;line 2 3;line 1 0;").turnings());
         Check.due("Promise 33: twice and three times", 4,
                 Check.told("points 4;line 0 1;line 2 3;line 2 3;line 1 0;line 0 1;").turnings());
+    }
+
+    /** 16 points and 64 lines: each of eight points with each of eight others. */
+    private static void fullForTurnings() {
+        NoThrees x = Check.told("grid 8 8;");
+        x.dual();
+        Check.due("Promise 38: 64 lines", 64, x.count(1));
+        Check.due("Promise 33: 64 lines", 2L * 40320 * 40320, x.turnings());
+        for (int p = 0; p < 16; p++) {
+            Check.due("Promise 34: 64 lines", 0xFFFF, x.orbit(p));
+        }
+        x.image(0);
+        Check.due("Promise 35: 64 lines", 1, x.like(0));
+        long line = x.drop(63);
+        Check.due("Promise 35: 63 lines", 0, x.like(0));
+        Check.due("Promise 33: 63 lines", 2L * 5040 * 5040, x.turnings());
+        Check.due("Promise 34: 63 lines", line, x.orbit(Long.numberOfTrailingZeros(line)));
+        Check.due("Promise 34: 63 lines", 0xFFFF & ~line, x.orbit(Long.numberOfTrailingZeros(~line)));
+        x.add(x.line(0));
+        Check.due("Promise 35: another 64th line", 0, x.like(0));
+        x.undo();
+        x.add(line);
+        Check.due("Promise 35: the 64th line again", 1, x.like(0));
+        x.add(x.drop(5));
+        Check.due("Promise 35: in another order", 1, x.like(0));
     }
 
     private static void orbit() {

@@ -251,6 +251,15 @@ public final class PointEdgesTest {
         Check.due("Promise 12: joined", false, x.regular(0, 2));
         Check.due("Promise 12: one on no line", false, Check.told("points 1;").regular(0, 0));
         Check.due("Promise 12: without lines", false, Check.told("points 2;").regular(0, 1));
+        // In a ring of 64 across from 61, 63 is 62, and across from 31, 63 is nothing.
+        NoThrees ring = ringOf64();
+        Check.due("Promise 11: of 64", Check.set(61, 62, 63), ring.hyper(63, 61));
+        Check.due("Promise 11: all of 64", -1, ring.hyper(63, 31));
+        Check.due("Promise 12: three points, two lines", false, ring.regular(63, 61));
+        Check.due("Promise 12: all 64 points, two lines", false, ring.regular(63, 31));
+        NoThrees eight = Check.told("grid 8 8;");
+        Check.due("Promise 12: two points, two lines", true, eight.regular(0, 63));
+        Check.due("Promise 11: two points", 1L << 63 | 1, eight.hyper(0, 63));
         NoThrees y = Check.told("grid 3 3;");
         for (int p = 1; p < 9; p++) {
             Check.due("Promise 12: grid, 0 and " + p, p == 4 || p == 5 || p == 7 || p == 8, y.regular(0, p));
@@ -369,6 +378,8 @@ public final class PointEdgesTest {
         law(4, "points 7;line 0 1 3;line 1 2 4;line 2 3 5;line 3 4 6;line 4 5 0;line 5 6 1;line 6 0 2;");
         law(4, "points 5;line 0 1;line 1 2;line 2 3;line 3 4;line 4 0;");
         law(0, "points 4;line 0 1;line 1 2;line 2 3;line 3 0;");
+        Check.due("Promise 14: a ring of 64", 4, ringOf64().law());
+        law(0, "grid 8 8;");
         law(0, "duads;");
         law(0, "sixes;");
         law(0, "threes;");

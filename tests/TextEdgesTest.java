@@ -570,6 +570,13 @@ public final class TextEdgesTest {
     }
 
     private static void sixtyFifth() {
+        StringBuilder most = new StringBuilder("points 64;");
+        for (int i = 0; i < 64; i++) {
+            most.append("line 63 0;");
+        }
+        taken("Terms 1: 64 points and 64 lines", 64, 64, most.toString());
+        Check.due("Terms 1: the 64th line", 1L << 63 | 1, Check.told(most.toString()).line(63));
+        refused("Terms 1: a 65th line", 4, 650, most + "line 63 0;");
         String[] first = {"points 2;", "grid 8 8;", "grid 2 2;", "duads;", "sixes;", "threes;"};
         int[] points = {2, 64, 4, 15, 27, 40};
         int[] has = {0, 16, 4, 15, 45, 40};

@@ -294,6 +294,7 @@ public final class TrayEdgesTest {
             x.restore(i);
             Check.due("Promise 46: each of its own", i, x.count(1));
         }
+        imageOf64();
         NoThrees y = Check.told("points 3;");
         y.add(3);
         y.add(6);
@@ -306,6 +307,23 @@ public final class TrayEdgesTest {
         y.undo();
         y.restore(1);
         sees("Promise 46: as it was, and not as it was undone", y, 3, 3);
+    }
+
+    private static void imageOf64() {
+        NoThrees x = Check.told("points 64;");
+        long[] lines = new long[64];
+        for (int i = 0; i < 64; i++) {
+            lines[i] = 1L << i | 1L << (i + 1) % 64;
+            x.add(lines[i]);
+        }
+        x.image(1);
+        x.left(0);
+        x.world(0);
+        x.restore(1);
+        sees("Promise 46: 64 points and 64 lines", x, 64, lines);
+        Check.due("Promise 46: 64 points and 64 lines", 1L << 62 | 1L << 63, x.through(63));
+        Check.due("Promise 47: 64 points and 64 lines", -1, x.add(3));
+        Check.due("Promise 47: nothing can be undone", false, x.undo());
     }
 
     private static void imageThrows() {
