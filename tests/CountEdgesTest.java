@@ -13,6 +13,7 @@ public final class CountEdgesTest {
         rankByField();
         codeDimension();
         codeLeastWord();
+        codeOfNine();
         turnings();
         fullForTurnings();
         orbit();
@@ -281,6 +282,38 @@ public final class CountEdgesTest {
         one.add(6);
         Check.due("Promise 32: all three", 3, one.code(1));
         Check.due("Promise 32: a line of three", 2, Check.told("points 3;line 0 1 2;").code(1));
+    }
+
+    /** Worlds of nine points, each code held against all sets of points. */
+    private static void codeOfNine() {
+        long seed = 7;
+        for (int turn = 0; turn < 300; turn++) {
+            NoThrees x = Check.told("points 9;");
+            long[] lines = new long[turn % 9];
+            for (int i = 0; i < lines.length; i++) {
+                seed = seed * 6364136223846793005L + 1442695040888963407L;
+                lines[i] = seed >>> 40 & 511 | 3L << (seed >>> 60 & 7);
+                x.add(lines[i]);
+            }
+            int words = 0;
+            int least = -1;
+            for (int set = 0; set < 512; set++) {
+                boolean isWord = true;
+                for (long line : lines) {
+                    isWord &= Long.bitCount(line & set) % 2 == 0;
+                }
+                words += isWord ? 1 : 0;
+                if (isWord && set != 0 && (least < 0 || Integer.bitCount(set) < least)) {
+                    least = Integer.bitCount(set);
+                }
+            }
+            Check.due("Promise 32: turn " + turn, words, 1L << x.code(0));
+            Check.due("Promise 32: the smallest set, turn " + turn, least, x.code(1));
+        }
+        // Of the words 1 1 1 1 0 0, 1 1 1 0 1 0 and the like the least is a sum of two.
+        NoThrees x = Check.told("points 6;line 0 1;line 1 2;line 0 3 4 5;");
+        Check.due("Promise 32: three words tell all", 3, x.code(0));
+        Check.due("Promise 32: the least is a sum of others", 2, x.code(1));
     }
 
     private static void turnings() {
